@@ -1,19 +1,28 @@
 /** Counts and prints the answers that are not as due. */
 final class Due {
     private int wrong = 0;
+    private String sentence = "";
+
+    /** The document's words that the checks from here on hold to; they are printed with what is wrong. */
+    void sentence(String where, String words) {
+        sentence = where + ", \"" + words + "\": ";
+    }
 
     void is(String call, long got, long want) {
         if (got != want) {
-            wrong++;
-            System.out.println(call + " answered " + got + ", due is " + want);
+            wrong(call + " answered " + got + ", due is " + want);
         }
     }
 
     void holds(String what, boolean so) {
         if (!so) {
-            wrong++;
-            System.out.println("does not hold: " + what);
+            wrong("does not hold: " + what);
         }
+    }
+
+    private void wrong(String what) {
+        wrong++;
+        System.out.println(sentence + what);
     }
 
     void end() {
