@@ -33,7 +33,7 @@ final class Bounds {
         o.fill(0, -19, 1311, 1);
         o.fill(1, 17, 908, -1);
         for (int place = 0; place < 18; place++) {
-            o.kernel(place, place % 2 == 0 ? place % 8 + 1 : -(place % 8) - 1);
+            o.kernel(place, 8 - place);
         }
         o.shape(shape[0], shape[1]);
         o.move();

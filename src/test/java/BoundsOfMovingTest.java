@@ -4,18 +4,18 @@ public final class BoundsOfMovingTest {
     private static final Bounds bounds = new Bounds(due);
 
     public static void main(String[] args) {
-        kernelPlaces();
-        kernelNumbers();
-        kernelAnswersTheNumberBefore();
-        shapeStrides();
-        shapeMargins();
-        shapeAnswersTheWidth();
-        moveAnswersTheWidth();
-        moveFromWideToNarrowAndBack();
-        widthOfTheResult();
-        resultWhereThereIsNone();
-        wayNumbers();
-        due.end();
+        due.run(
+                BoundsOfMovingTest::kernelPlaces,
+                BoundsOfMovingTest::kernelNumbers,
+                BoundsOfMovingTest::kernelAnswersTheNumberBefore,
+                BoundsOfMovingTest::shapeStrides,
+                BoundsOfMovingTest::shapeMargins,
+                BoundsOfMovingTest::shapeAnswersTheWidth,
+                BoundsOfMovingTest::moveAnswersTheWidth,
+                BoundsOfMovingTest::moveFromWideToNarrowAndBack,
+                BoundsOfMovingTest::widthOfTheResult,
+                BoundsOfMovingTest::resultWhereThereIsNone,
+                BoundsOfMovingTest::wayNumbers);
     }
 
     private static void kernelPlaces() {

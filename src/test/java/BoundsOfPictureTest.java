@@ -4,23 +4,23 @@ public final class BoundsOfPictureTest {
     private static final Bounds bounds = new Bounds(due);
 
     public static void main(String[] args) {
-        newNumbersAreZero();
-        newStrideAndMarginAreOne();
-        newHasNoResult();
-        putPlaces();
-        putNumbers();
-        putAnswersTheNumberBefore();
-        fillCutsWhatIsTooSmall();
-        fillCutsWhatIsTooLarge();
-        fillCutsTheSumAlone();
-        fillLayers();
-        fillFirstNumbers();
-        fillTwists();
-        fillSlopes();
-        fillSlopesOfNoNumbers();
-        fillAnswersZero();
-        pixelPlaces();
-        due.end();
+        due.run(
+                BoundsOfPictureTest::newNumbersAreZero,
+                BoundsOfPictureTest::newStrideAndMarginAreOne,
+                BoundsOfPictureTest::newHasNoResult,
+                BoundsOfPictureTest::putPlaces,
+                BoundsOfPictureTest::putNumbers,
+                BoundsOfPictureTest::putAnswersTheNumberBefore,
+                BoundsOfPictureTest::fillCutsWhatIsTooSmall,
+                BoundsOfPictureTest::fillCutsWhatIsTooLarge,
+                BoundsOfPictureTest::fillCutsTheSumAlone,
+                BoundsOfPictureTest::fillLayers,
+                BoundsOfPictureTest::fillFirstNumbers,
+                BoundsOfPictureTest::fillTwists,
+                BoundsOfPictureTest::fillSlopes,
+                BoundsOfPictureTest::fillSlopesOfNoNumbers,
+                BoundsOfPictureTest::fillAnswersZero,
+                BoundsOfPictureTest::pixelPlaces);
     }
 
     private static void newNumbersAreZero() {

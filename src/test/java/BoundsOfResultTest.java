@@ -1,3 +1,5 @@
+import java.util.Arrays;
+
 /** The boundary cases of promises 10 to 15 (floor, thin, divide, take, sum, peak), a method for each sentence. */
 public final class BoundsOfResultTest {
     private static final int[] WIDTHS = {8, 6, 4, 3, 2, 1, 0};
@@ -5,22 +7,22 @@ public final class BoundsOfResultTest {
     private static final Bounds bounds = new Bounds(due);
 
     public static void main(String[] args) {
-        floorOfTheLeastNegative();
-        floorCounts();
-        thinHalvesTheWidth();
-        thinLeavesOutTheOddLine();
-        thinOfNegatives();
-        divideRounds();
-        divideDivisors();
-        divideAnswersTheWidth();
-        takeCuts();
-        takeWhereThereIsNone();
-        takeLayers();
-        takeCounts();
-        sumOfAll();
-        peakOfSeveral();
-        peakOfNone();
-        due.end();
+        due.run(
+                BoundsOfResultTest::floorOfTheLeastNegative,
+                BoundsOfResultTest::floorCounts,
+                BoundsOfResultTest::thinHalvesTheWidth,
+                BoundsOfResultTest::thinLeavesOutTheOddLine,
+                BoundsOfResultTest::thinAnswersTheNewWidth,
+                BoundsOfResultTest::divideRounds,
+                BoundsOfResultTest::divideDivisors,
+                BoundsOfResultTest::divideAnswersTheWidth,
+                BoundsOfResultTest::takeCuts,
+                BoundsOfResultTest::takeWhereThereIsNone,
+                BoundsOfResultTest::takeLayers,
+                BoundsOfResultTest::takeCounts,
+                BoundsOfResultTest::sumOfAll,
+                BoundsOfResultTest::peakOfSeveral,
+                BoundsOfResultTest::peakOfNone);
     }
 
     private static void floorOfTheLeastNegative() {
@@ -97,7 +99,7 @@ public final class BoundsOfResultTest {
         bounds.resultIs("greatest at (" + x + ", " + y + ")", o, want);
     }
 
-    private static void thinOfNegatives() {
+    private static void thinAnswersTheNewWidth() {
         due.sentence("Promise 11", "Answers the new W.");
         for (int width : WIDTHS) {
             ConvKernels o = Bounds.flat(width, -20);
@@ -129,7 +131,7 @@ public final class BoundsOfResultTest {
             ConvKernels flat = Bounds.flat(width, -19);
             flat.divide(10);
             int[] want = new int[width * width];
-            java.util.Arrays.fill(want, -1);
+            Arrays.fill(want, -1);
             bounds.resultIs("-19 divided by 10, W " + width, flat, want);
         }
     }
@@ -273,10 +275,11 @@ public final class BoundsOfResultTest {
             }
         }
         for (int first = 0; first < 64; first++) {
-            for (int second : new int[] {first, 63, (first / 8 + 1) * 8}) {
+            int nextRow = Math.min(8 * (first / 8 + 1), 63);
+            for (int second : new int[] {first, nextRow, 63}) {
                 ConvKernels o = Bounds.flat(8, -20);
                 o.put(first, -19);
-                o.put(Math.min(second, 63), -19);
+                o.put(second, -19);
                 o.move();
                 due.is("peak() of " + first + " and " + second, o.peak(), first);
             }

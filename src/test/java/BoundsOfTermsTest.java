@@ -7,19 +7,19 @@ public final class BoundsOfTermsTest {
     private static final Bounds bounds = new Bounds(due);
 
     public static void main(String[] args) {
-        thePictureHasItsCorners();
-        outsideCountsAsZero();
-        theKernelHasItsCorners();
-        strideAndMargin();
-        theWidthIsZeroAtFirst();
-        theWidthIsRoundedDown();
-        movingReachesTheGreatestSums();
-        wayIsNotSeen();
-        noCallThrows();
-        refusedCallsOneAfterTheOther();
-        theConstant();
-        theLastOfAllCalls();
-        due.end();
+        due.run(
+                BoundsOfTermsTest::thePictureHasItsCorners,
+                BoundsOfTermsTest::outsideCountsAsZero,
+                BoundsOfTermsTest::theKernelHasItsCorners,
+                BoundsOfTermsTest::strideAndMargin,
+                BoundsOfTermsTest::theWidthIsZeroAtFirst,
+                BoundsOfTermsTest::theWidthIsRoundedDown,
+                BoundsOfTermsTest::movingReachesTheGreatestSums,
+                BoundsOfTermsTest::wayIsNotSeen,
+                BoundsOfTermsTest::noCallThrows,
+                BoundsOfTermsTest::refusedCallsOneAfterTheOther,
+                BoundsOfTermsTest::theConstant,
+                BoundsOfTermsTest::theLastOfAllCalls);
     }
 
     private static void thePictureHasItsCorners() {

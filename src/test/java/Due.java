@@ -25,6 +25,19 @@ final class Due {
         System.out.println(sentence + what);
     }
 
+    /** Each test by itself: one that throws is told of and does not keep the others from running. */
+    void run(Runnable... tests) {
+        for (Runnable test : tests) {
+            sentence = "";
+            try {
+                test.run();
+            } catch (RuntimeException e) {
+                wrong("threw " + e);
+            }
+        }
+        end();
+    }
+
     void end() {
         System.out.println(wrong == 0 ? "all answers are as due" : wrong + " answers are not as due");
         if (wrong != 0) {

@@ -1,21 +1,14 @@
-/** Promises 10 to 15: floor, thin, divide, take, sum, peak. */
+/** The ordinary cases of promises 10 to 15: floor, thin, divide, take, sum, peak. */
 public final class ResultTest {
-    private static final int BAD = -1000000;
-    private static final int LEAST = Integer.MIN_VALUE;
-    private static final int MOST = Integer.MAX_VALUE;
     private static final Due due = new Due();
 
     public static void main(String[] args) {
-        nothingOfNoResult();
         floorCutsNegatives();
-        thinTakesTheGreatest();
         thinDropsTheOddLine();
         thinnedNumbersAreGone();
         divideRoundsTowardsZero();
-        divideRefuses();
         takeCutsAndCounts();
         takeOfASmallResult();
-        takeRefuses();
         sumOfTheWidthAlone();
         peakIsTheFirstGreatest();
         due.end();
@@ -30,20 +23,6 @@ public final class ResultTest {
         x.kernel(4, 5);
         x.move();
         return x;
-    }
-
-    private static void nothingOfNoResult() {
-        ConvKernels x = new ConvKernels();
-        x.put(3, 9);
-        due.is("floor()", x.floor(), 0);
-        due.is("thin()", x.thin(), 0);
-        due.is("divide(1)", x.divide(1), 0);
-        due.is("divide(0)", x.divide(0), BAD);
-        due.is("sum()", x.sum(), 0);
-        due.is("peak()", x.peak(), -1);
-        due.is("take(1)", x.take(1), 0);
-        due.is("take(0)", x.take(0), 1);
-        due.is("pixel(3)", x.pixel(3), 0);
     }
 
     private static void floorCutsNegatives() {
@@ -64,26 +43,6 @@ public final class ResultTest {
         all.move();
         all.thin();
         due.is("floor() of a thinned one", all.floor(), 16);
-    }
-
-    private static void thinTakesTheGreatest() {
-        for (int corner = 0; corner < 4; corner++) {
-            for (int square = 0; square < 16; square++) {
-                int x = 2 * (square % 4) + corner % 2;
-                int y = 2 * (square / 4) + corner / 2;
-                ConvKernels o = new ConvKernels();
-                o.fill(0, -20, 1010, 0);
-                o.put(8 * y + x, -3);
-                o.kernel(4, 1);
-                o.move();
-                due.is("thin()", o.thin(), 4);
-                due.is("width()", o.width(), 4);
-                for (int place = 0; place < 16; place++) {
-                    due.is("greatest at (" + x + ", " + y + "): thinned " + place,
-                            o.result(place % 4, place / 4), place == square ? -3 : -20);
-                }
-            }
-        }
     }
 
     private static void thinDropsTheOddLine() {
@@ -142,18 +101,6 @@ public final class ResultTest {
         due.is("sum() then", small.sum(), -54);
     }
 
-    private static void divideRefuses() {
-        ConvKernels x = copying(new int[] {20});
-        for (int d : new int[] {0, -1, 101, LEAST, MOST}) {
-            due.is("divide(" + d + ")", x.divide(d), BAD);
-        }
-        due.is("result(0, 0) after refused ones", x.result(0, 0), 100);
-        due.is("divide(1)", x.divide(1), 8);
-        due.is("result(0, 0) after divide(1)", x.result(0, 0), 100);
-        due.is("divide(100)", x.divide(100), 8);
-        due.is("result(0, 0) after divide(100)", x.result(0, 0), 1);
-    }
-
     private static void takeCutsAndCounts() {
         ConvKernels x = copying(new int[] {4, 5, -4, -5, 1, 0, -1});
         int[] want = {20, 20, -20, -20, 5, 0, -5};
@@ -188,15 +135,6 @@ public final class ResultTest {
             }
         }
         due.is("layer 0 is left", o.pixel(63), 3);
-    }
-
-    private static void takeRefuses() {
-        ConvKernels x = copying(new int[] {1});
-        for (int c : new int[] {-1, 2, LEAST, MOST}) {
-            due.is("take(" + c + ")", x.take(c), BAD);
-        }
-        due.is("pixel(0) after refused ones", x.pixel(0), 1);
-        due.is("pixel(64) after refused ones", x.pixel(64), 0);
     }
 
     private static void sumOfTheWidthAlone() {
